@@ -373,9 +373,9 @@ public final class ChalkMarket {
     }
 
     /**
-     * Of n as a sum of Fibonacci numbers, each the largest that fits, the last one: the next larger
-     * of the sum is more than twice as much, so the other one can not take that whole; and of less
-     * than the last one, taken first, the other one can always take what is left of it.
+     * Of n as a sum of Fibonacci numbers, each the largest that fits, the last one. Who takes it
+     * leaves a sum whose last one is more than twice as much, so beyond the other one's reach; who
+     * takes less leaves a sum whose last one is within it.
      */
     private static int leastWinningTake(int n) {
         int left = n;

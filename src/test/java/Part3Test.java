@@ -1,4 +1,5 @@
 import java.util.ArrayList;
+import java.util.Arrays;
 import java.util.List;
 import java.util.Random;
 
@@ -62,7 +63,7 @@ public final class Part3Test {
                 now[thinks]++;
             }
             for (int day = 0; day < 7; day++) {
-                DUE.is("14: sway(" + day + ") of " + java.util.Arrays.toString(now), market.sway(day), fewest(ways, now, day));
+                DUE.is("14: sway(" + day + ") of " + Arrays.toString(now), market.sway(day), fewest(ways, now, day));
             }
         }
     }
@@ -158,6 +159,7 @@ public final class Part3Test {
         int[] outsideN = {0, 10, -1, Integer.MIN_VALUE, Integer.MAX_VALUE};
         for (int n : outsideN) {
             DUE.is("15: needed(1, " + n + ", ..)", market.needed(1, n, 1, 0, 0), OUTSIDE);
+            DUE.is("15: needed(0, " + n + ", ..)", market.needed(0, n, 1, 0, 1), OUTSIDE);
         }
         int[] outsideQ = {0, 82, -1, Integer.MIN_VALUE, Integer.MAX_VALUE};
         for (int q : outsideQ) {
@@ -256,6 +258,7 @@ public final class Part3Test {
         int[] outsideN = {0, 10, -1, Integer.MIN_VALUE, Integer.MAX_VALUE};
         for (int n : outsideN) {
             DUE.is("16: trade(1, " + n + ", ..)", market.trade(1, n, 1, 0), OUTSIDE);
+            DUE.is("16: trade(0, " + n + ", ..)", market.trade(0, n, 1, 0), OUTSIDE);
         }
         for (int n = 1; n <= 9; n++) {
             int most = power10(n) - 1;

@@ -325,7 +325,7 @@ public final class Part4Test {
             long x = seed;
             for (int i = 0; i < m; i++) {
                 x = (75 * x + 74) % 65537;
-                Due.put(copy, word((int) x));
+                Due.put(copy, Model.drawnAct((int) x));
                 if (copy.judge(0) == NONE) {
                     sold += copy.then(3);
                     markets += copy.then(5);
@@ -349,26 +349,6 @@ public final class Part4Test {
                 copy.cart(cart, from.told(40 + cart));
             }
             return copy;
-        }
-
-        private static String word(int x) {
-            char who = (char) ('A' + x % 8);
-            int z = x / 64;
-            switch (x / 8 % 8) {
-                case 0:
-                case 1:
-                    return who + "" + z % 7;
-                case 2:
-                    return who + "-";
-                case 3:
-                    return who + ">" + (char) ('A' + z % 8);
-                case 4:
-                    return who + "$" + (char) ('A' + z % 8);
-                case 5:
-                    return z % 2 == 0 ? who + "+" : "c" + z % 4;
-                default:
-                    return ".";
-            }
         }
     }
 
