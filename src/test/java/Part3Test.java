@@ -118,6 +118,8 @@ public final class Part3Test {
         DUE.is("15: nine nines, 81", market.needed(999999999, 9, 81, 0, 0), 1);
         DUE.is("15: nine nines, 1", market.needed(999999999, 9, 1, 8, 1), 511);
         DUE.is("15: nine nines, 1", market.needed(999999999, 9, 1, 8, 0), 1);
+        DUE.is("15: nine nines carry 81", market.needed(999999999, 9, 81, 8, 1), 1);
+        DUE.is("15: and leave nothing for the next call", market.needed(1, 2, 1, 0, 1), 2);
     }
 
     private static void promise15ByTrying() {
