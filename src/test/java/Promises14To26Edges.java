@@ -279,6 +279,14 @@ final class Promises14To26Edges {
         edges.sameShown(kept.and("forget()", "restore(0)"), kept);
         edges.sameShown(kept.and("forget()", "seen(0, 0, 2)", "restore(0)"), kept);
         edges.is(kept.and("forget()", "restore(0)"), "seen(0, 0, 0)", ChalkMarket.FULL);
+        // All eight come back in place of eight others, the eighth too.
+        Story others = kept.and("forget()");
+        for (int i = 0; i < 8; i++) {
+            others = others.and("seen(9, 0, 0)");
+        }
+        edges.is(others, "slates(-1)", 45);
+        edges.is(others.and("restore(0)"), "slates(-1)", 29);
+        edges.sameShown(others.and("restore(0)"), kept);
         edges.is(FRESH.and("image(0)", "seen(0, 0, 2)", "restore(0)"), "told(5)", 0);
         // Morning 99 and what was sold come back, and go.
         Story late = FRESH.and("image(0)", "do " + ".".repeat(60), "do " + ".".repeat(39), "image(1)");

@@ -5,6 +5,7 @@ public final class RandomRunsTest {
     private static final Due DUE = new Due("RandomRunsTest");
     private static final int RUNS = 400;
     private static final int CALLS = 512;
+    private static final int MOST_IN_A_STEP = 20;
     private static final int NONE = ChalkMarket.NONE;
     private static final int UNKNOWN = ChalkMarket.UNKNOWN;
     private static final int OUTSIDE = ChalkMarket.OUTSIDE;
@@ -25,7 +26,7 @@ public final class RandomRunsTest {
     public static void main(String[] args) {
         for (int seed = 0; seed < RUNS; seed++) {
             RandomRunsTest run = new RandomRunsTest(seed);
-            while (run.calls < CALLS) {
+            while (run.calls + MOST_IN_A_STEP <= CALLS) {
                 run.step();
             }
         }
@@ -34,6 +35,9 @@ public final class RandomRunsTest {
 
     private void due(String call, int got, int want) {
         calls++;
+        if (calls > CALLS) {
+            throw new IllegalStateException("more than 512 calls: " + call);
+        }
         DUE.is(name + call, got, want);
     }
 

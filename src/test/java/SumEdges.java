@@ -100,6 +100,8 @@ final class SumEdges {
         }
         // What an earlier call counted is not counted again.
         edges.is(FRESH.and("needed(999999999, 9, 1, 0, 1)"), "needed(0, 1, 1, 0, 1)", 0);
+        edges.is(FRESH.and("needed(111111111, 9, 1, 0, 1)"), "needed(0, 1, 1, 0, 1)", 0);
+        edges.is(FRESH.and("needed(111111111, 9, 1, 0, 1)"), "needed(5, 1, 5, 0, 0)", 1);
     }
 
     private static void trade(Edges edges) {
@@ -138,7 +140,10 @@ final class SumEdges {
         traded(edges, "1911, 4, 2", 8, 1);
         traded(edges, "1912, 4, 2", 9, 2);
         traded(edges, "1912, 4, 1", 8, 1);
+        // Days of an earlier call are over.
         edges.is(FRESH.and("trade(909090909, 9, 9, 0)"), "trade(9, 1, 9, 0)", 0);
+        edges.is(FRESH.and("trade(999999999, 9, 9, 0)"), "trade(0, 1, 9, 0)", 0);
+        edges.is(FRESH.and("trade(999999999, 9, 9, 0)"), "trade(0, 8, 9, 1)", 0);
     }
 
     private static void traded(Edges edges, String numbers, int most, int times) {
@@ -213,6 +218,9 @@ final class SumEdges {
         asked(edges, FRESH.and("seen(0, 8, 2)"), 0, 1);
         asked(edges, FRESH.and("seen(0, 0, 2)"), 0, 5);
         asked(edges, FRESH.and("seen(9, 9, 2)"), 0, 5);
+        // a less b is 0, 1 or 2, or 0, -1 or -2: the least behind 0, and behind all with no x.
+        asked(edges, FRESH.and("seen(1, 0, 0)", "seen(0, 3, 1)"), 1, 5);
+        asked(edges, FRESH.and("seen(0, 1, 1)", "seen(3, 0, 0)"), 10, 5);
         // a less b is 7 or 8, or -7 or -8: the least that parts the two.
         asked(edges, FRESH.and("seen(0, 6, 0)"), 7, 1);
         asked(edges, FRESH.and("seen(6, 0, 1)"), 70, 1);
@@ -263,6 +271,16 @@ final class SumEdges {
         taken(edges, "99, 1", NONE);
         taken(edges, "99, 2", 2);
         taken(edges, "99, 99", 2);
+        // What Fibonacci's numbers leave over decides; below that many who begins has lost.
+        int[] alone = {1, 2, 3, 5, 8, 13, 21, 34, 55, 89};
+        for (int i = 0; i < alone.length; i++) {
+            taken(edges, alone[i] + ", " + alone[i], alone[i]);
+            taken(edges, alone[i] + ", " + (alone[i] - 1), NONE);
+            if (i < 7) {
+                taken(edges, (alone[i] + alone[i + 2]) + ", " + alone[i], alone[i]);
+                taken(edges, (alone[i] + alone[i + 2]) + ", " + (alone[i] - 1), NONE);
+            }
+        }
     }
 
     private static void taken(Edges edges, String numbers, int first) {
@@ -306,6 +324,9 @@ final class SumEdges {
         likely(edges, "2, 2, 1, 0", 1, 4);
         likely(edges, "12, 2, 0, 0", 1255, 2048);
         likely(edges, "12, 2, 1, 0", 793, 2048);
+        // What an earlier call counted is not counted again.
+        edges.is(FRESH.and("rung(12, 7, 6, 0, 0)"), "rung(12, 2, 0, 0, 0)", 1255);
+        edges.is(FRESH.and("rung(12, 7, 0, 0, 0)"), "rung(12, 2, 0, 0, 1)", 2048);
     }
 
     private static void likely(Edges edges, String numbers, long upper, long lower) {
