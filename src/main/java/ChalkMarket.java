@@ -39,7 +39,6 @@ public final class ChalkMarket {
     private static final int MOST_THINKERS = 12;
     private static final int LAST_SEED = 9999;
     private static final int MOST_DRAWS = 99;
-    private static final int IMAGES = 2;
 
     private static final int[] FIBONACCI = {1, 2, 3, 5, 8, 13, 21, 34, 55, 89};
 
@@ -47,7 +46,8 @@ public final class ChalkMarket {
     private final Pad pad;
     private final Trial trial;
     private final Sights sights;
-    private final Image[] images;
+    private final Image firstImage;
+    private final Image secondImage;
     private final Row digits;
     private final Votes voters;
     private final Trades trades;
@@ -58,10 +58,8 @@ public final class ChalkMarket {
         pad = new Pad();
         trial = new Trial();
         sights = new Sights();
-        images = new Image[IMAGES];
-        for (int n = 0; n < IMAGES; n++) {
-            images[n] = new Image();
-        }
+        firstImage = new Image();
+        secondImage = new Image();
         digits = new Row();
         voters = new Votes();
         trades = new Trades();
@@ -292,18 +290,18 @@ public final class ChalkMarket {
     }
 
     public int image(int n) {
-        if (!isWithin(n, 0, IMAGES - 1)) {
+        if (!isWithin(n, 0, 1)) {
             return OUTSIDE;
         }
-        images[n].keep(now, sights);
+        imageOf(n).keep(now, sights);
         return 1;
     }
 
     public int restore(int n) {
-        if (!isWithin(n, 0, IMAGES - 1)) {
+        if (!isWithin(n, 0, 1)) {
             return OUTSIDE;
         }
-        return images[n].giveBack(now, sights) ? 1 : STATE;
+        return imageOf(n).giveBack(now, sights) ? 1 : STATE;
     }
 
     public int told(int what) {
@@ -336,6 +334,11 @@ public final class ChalkMarket {
             return now.coin[what - 30];
         }
         return isCart(what - 40) ? now.far[what - 40] : OUTSIDE;
+    }
+
+    /** Two fields instead of an array, whose places might hold nothing. */
+    private Image imageOf(int n) {
+        return n == 0 ? firstImage : secondImage;
     }
 
     /** Leaves behind, in the trial, how all is when the WEEKS on the PAD are over. */

@@ -47,8 +47,13 @@ final class Due {
     }
 
     /** Puts a text on the PAD in place of what was there. */
-    static ChalkMarket put(ChalkMarket market, String text) {
+    static Market put(Market market, String text) {
         market.wipe();
+        return write(market, text);
+    }
+
+    /** Puts a text on the PAD behind what is there. */
+    static Market write(Market market, String text) {
         for (int i = 0; i < text.length(); i++) {
             market.say(text.charAt(i));
         }
@@ -56,12 +61,12 @@ final class Due {
     }
 
     /** A new object with a text on its PAD. */
-    static ChalkMarket with(String text) {
-        return put(new ChalkMarket(), text);
+    static Market with(String text) {
+        return put(new Market(), text);
     }
 
     /** Does a text in parts that fit on the PAD; each ACT stands alone in its word. */
-    static ChalkMarket doAll(ChalkMarket market, String words) {
+    static Market doAll(Market market, String words) {
         for (String word : words.split(" ")) {
             put(market, word);
             if (market.done() < 0) {
@@ -75,8 +80,9 @@ final class Due {
         return ".".repeat(n);
     }
 
-    /** All that can be seen of an object without changing it. */
-    static String seenOf(ChalkMarket market) {
+    /** All that can be seen of an object, without asking that one. */
+    static String seenOf(Market asked) {
+        Market market = asked.again();
         StringBuilder all = new StringBuilder();
         for (int what = 0; what < 44; what++) {
             if (what < 6 || what > 9) {

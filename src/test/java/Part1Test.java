@@ -17,7 +17,7 @@ public final class Part1Test {
     }
 
     private static void promise1NewObject() {
-        ChalkMarket market = new ChalkMarket();
+        Market market = new Market();
         for (int what = 0; what <= 5; what++) {
             DUE.is("1: told(" + what + ")", market.told(what), 0);
         }
@@ -40,15 +40,15 @@ public final class Part1Test {
     }
 
     private static void promise1ObjectsAreApart() {
-        ChalkMarket first = new ChalkMarket();
+        Market first = new Market();
         first.one(0, 0, 9, 99);
         first.cart(0, 9);
         first.day(6);
         first.say('.');
         first.seen(0, 0, 2);
         first.image(0);
-        DUE.is("1: a second object", Due.seenOf(new ChalkMarket()), Due.seenOf(new ChalkMarket()));
-        ChalkMarket second = new ChalkMarket();
+        DUE.is("1: a second object", Due.seenOf(new Market()), Due.seenOf(new Market()));
+        Market second = new Market();
         DUE.is("1: told(1) of a second object", second.told(1), 0);
         DUE.is("1: told(0) of a second object", second.told(0), 0);
         DUE.is("1: restore(0) of a second object", second.restore(0), ChalkMarket.STATE);
@@ -56,7 +56,7 @@ public final class Part1Test {
     }
 
     private static void promise2One() {
-        ChalkMarket market = new ChalkMarket();
+        Market market = new Market();
         for (int one = 0; one < 8; one++) {
             DUE.is("2: one(" + one + ", 3, 1, 7)", market.one(one, 3, 1, 7), 510);
             DUE.is("2: one(" + one + ", -1, 9, 99)", market.one(one, -1, 9, 99), 107);
@@ -78,7 +78,7 @@ public final class Part1Test {
     }
 
     private static void promise2OneRefused() {
-        ChalkMarket market = new ChalkMarket();
+        Market market = new Market();
         market.one(0, 3, 4, 5);
         market.one(7, 3, 4, 5);
         String before = Due.seenOf(market);
@@ -103,7 +103,7 @@ public final class Part1Test {
     }
 
     private static void promise3Cart() {
-        ChalkMarket market = new ChalkMarket();
+        Market market = new Market();
         for (int cart = 0; cart < 4; cart++) {
             int before = 3;
             for (int far = 9; far >= 0; far--) {
@@ -129,7 +129,7 @@ public final class Part1Test {
     }
 
     private static void promise4Day() {
-        ChalkMarket market = new ChalkMarket();
+        Market market = new Market();
         int before = 0;
         for (int day = 6; day >= 0; day--) {
             DUE.is("4: day(" + day + ")", market.day(day), before);
@@ -147,7 +147,7 @@ public final class Part1Test {
     }
 
     private static void promise5Say() {
-        ChalkMarket market = new ChalkMarket();
+        Market market = new Market();
         for (int sign = 33; sign <= 126; sign++) {
             if (sign == 33 + 60) {
                 market.wipe();
@@ -174,7 +174,7 @@ public final class Part1Test {
     }
 
     private static void promise6Wipe() {
-        ChalkMarket market = Due.with("A0B1.");
+        Market market = Due.with("A0B1.");
         DUE.is("6: wipe()", market.wipe(), 5);
         DUE.is("6: told(0)", market.told(0), 0);
         DUE.is("6: wipe() again", market.wipe(), 0);
@@ -199,7 +199,7 @@ public final class Part1Test {
         for (Object[] row : bad) {
             DUE.is("7: fault() of " + row[0], Due.with((String) row[0]).fault(), (Integer) row[1]);
         }
-        ChalkMarket market = Due.with("A>");
+        Market market = Due.with("A>");
         DUE.is("7: fault() changes nothing", market.fault() * 100 + market.told(0), 202);
         market.say('B');
         DUE.is("7: what had to come came", market.fault(), ChalkMarket.NONE);

@@ -26,7 +26,7 @@ public final class Part2Test {
         DUE.end();
     }
 
-    private static void judged(ChalkMarket market, String text, int act, int why) {
+    private static void judged(Market market, String text, int act, int why) {
         Due.put(market, text);
         String seen = Due.seenOf(market);
         DUE.is("8: judge(0) of " + text, market.judge(0), act);
@@ -35,7 +35,7 @@ public final class Part2Test {
     }
 
     private static void promise8Reasons() {
-        ChalkMarket market = new ChalkMarket();
+        Market market = new Market();
         market.one(0, 0, 9, 10);
         market.one(1, 6, 8, 3);
         market.one(2, -1, 9, 2);
@@ -72,7 +72,7 @@ public final class Part2Test {
     }
 
     private static void promise8TheLeastReason() {
-        ChalkMarket market = new ChalkMarket();
+        Market market = new Market();
         judged(market, "A>A", 0, 3);
         judged(market, "A>B", 0, 4);
         market.one(0, -1, 0, 0);
@@ -88,7 +88,7 @@ public final class Part2Test {
     }
 
     private static void promise8TheFirstAct() {
-        ChalkMarket market = new ChalkMarket();
+        Market market = new Market();
         judged(market, "A0.c2B1B1A0", 4, 1);
         judged(market, "A0A0A-A-", 1, 1);
         judged(market, "....A-", 4, 1);
@@ -100,7 +100,7 @@ public final class Part2Test {
     }
 
     private static void promise8Refused() {
-        ChalkMarket market = Due.with("A");
+        Market market = Due.with("A");
         String seen = Due.seenOf(market);
         DUE.is("8: judge(0) with a FAULT", market.judge(0), NO);
         DUE.is("8: judge(1) with a FAULT", market.judge(1), NO);
@@ -119,7 +119,7 @@ public final class Part2Test {
     }
 
     private static void promise8Morning99() {
-        ChalkMarket market = Due.with(Due.mornings(60));
+        Market market = Due.with(Due.mornings(60));
         DUE.is("8: 60 mornings", market.done(), 60);
         Due.put(market, Due.mornings(40));
         DUE.is("8: the 100th morning", market.judge(0), 39);
@@ -138,9 +138,9 @@ public final class Part2Test {
     }
 
     private static void promise9Done() {
-        ChalkMarket market = new ChalkMarket();
+        Market market = new Market();
         DUE.is("9: done() of nothing", market.done(), 0);
-        DUE.is("9: all is as at first", Due.seenOf(market), Due.seenOf(new ChalkMarket()));
+        DUE.is("9: all is as at first", Due.seenOf(market), Due.seenOf(new Market()));
         Due.put(market, "A0B3C+c1A$D.C0C>E");
         market.seen(1, 2, 0);
         DUE.is("9: done()", market.done(), 8);
@@ -163,19 +163,19 @@ public final class Part2Test {
     private static void promise9DoneRefused() {
         String[] texts = {"A", "A0c", "x", "A0A0", "A0.A+A$A", "c0c0c0c0", "B>"};
         for (String text : texts) {
-            ChalkMarket market = Due.with(text);
+            Market market = Due.with(text);
             String seen = Due.seenOf(market);
             DUE.is("9: done() of " + text, market.done(), NO);
             DUE.is("9: all behind it", Due.seenOf(market), seen);
         }
-        ChalkMarket market = Due.with("A0A0");
+        Market market = Due.with("A0A0");
         market.done();
         DUE.is("9: A0 of A0A0 was not done", market.told(10), NONE);
         DUE.is("9: the PAD stays", market.wipe(), 4);
     }
 
     private static void promise10Behind() {
-        ChalkMarket market = new ChalkMarket();
+        Market market = new Market();
         market.one(7, 2, 3, 4);
         DUE.is("10: behind(7, 0) of nothing", market.behind(7, 0), 2);
         DUE.is("10: behind(7, 1) of nothing", market.behind(7, 1), 3);
@@ -204,7 +204,7 @@ public final class Part2Test {
     private static void promise10BehindRefused() {
         String[] texts = {"", "A", "A0A0"};
         for (String text : texts) {
-            ChalkMarket market = Due.with(text);
+            Market market = Due.with(text);
             int[] noOnes = {-1, 8, Integer.MIN_VALUE, Integer.MAX_VALUE};
             for (int one : noOnes) {
                 DUE.is("10: behind(" + one + ", 0)", market.behind(one, 0), ChalkMarket.UNKNOWN);
@@ -223,7 +223,7 @@ public final class Part2Test {
     }
 
     private static void promise10Talk() {
-        ChalkMarket market = new ChalkMarket();
+        Market market = new Market();
         market.one(0, 4, 2, 10);
         market.one(1, 3, 1, 10);
         market.one(2, -1, 0, 10);
@@ -242,7 +242,7 @@ public final class Part2Test {
     }
 
     private static void promise10Pay() {
-        ChalkMarket market = new ChalkMarket();
+        Market market = new Market();
         market.one(0, -1, 1, 9);
         market.one(1, 2, 9, 99);
         Due.put(market, "A$BA$BA$B");
@@ -256,7 +256,7 @@ public final class Part2Test {
     }
 
     private static void promise10Market() {
-        ChalkMarket market = new ChalkMarket();
+        Market market = new Market();
         market.day(6);
         int[] thinks = {0, 1, 2, 3, 4, 5, 6, -1};
         int[] sure = {7, 8, 9, 0, 1, 9, 4, 3};
@@ -278,7 +278,7 @@ public final class Part2Test {
     }
 
     private static void promise11Comes() {
-        ChalkMarket market = new ChalkMarket();
+        Market market = new Market();
         int[] far = {0, 1, 5, 9};
         for (int cart = 0; cart < 4; cart++) {
             market.cart(cart, far[cart]);
@@ -298,7 +298,7 @@ public final class Part2Test {
         DUE.is("11: nothing is DONE", market.told(3), 0);
     }
 
-    private static void carts(ChalkMarket market, String text, int... far) {
+    private static void carts(Market market, String text, int... far) {
         Due.put(market, text);
         for (int cart = 0; cart < 4; cart++) {
             DUE.is("11: comes(" + cart + ") of " + text, market.comes(cart), far[cart]);
@@ -309,7 +309,7 @@ public final class Part2Test {
         String[] texts = {"", "c", "c0c0c0c0"};
         int[] noCarts = {-1, 4, Integer.MIN_VALUE, Integer.MAX_VALUE};
         for (String text : texts) {
-            ChalkMarket market = Due.with(text);
+            Market market = Due.with(text);
             String seen = Due.seenOf(market);
             for (int cart : noCarts) {
                 DUE.is("11: comes(" + cart + ")", market.comes(cart), ChalkMarket.UNKNOWN);
@@ -321,7 +321,7 @@ public final class Part2Test {
         }
     }
 
-    private static void then(ChalkMarket market, String text, int... due) {
+    private static void then(Market market, String text, int... due) {
         Due.put(market, text);
         for (int what = 0; what < 7; what++) {
             DUE.is("12: then(" + what + ") of " + text, market.then(what), due[what]);
@@ -329,7 +329,7 @@ public final class Part2Test {
     }
 
     private static void promise12Then() {
-        ChalkMarket market = new ChalkMarket();
+        Market market = new Market();
         then(market, "", 0, 0, 0, 0, 0, 0, NONE);
         then(market, "A0", 0, 1, 0, 0, 0, 0, NONE);
         then(market, "A0B1C2D3E4F5", 0, 6, 0, 0, 0, 0, NONE);
@@ -346,7 +346,7 @@ public final class Part2Test {
     }
 
     private static void promise12Markets() {
-        ChalkMarket market = new ChalkMarket();
+        Market market = new Market();
         market.cart(0, 0);
         market.cart(1, 0);
         then(market, "A0.", 1, 1, 0, 2, 1, 1, 1);
@@ -368,7 +368,7 @@ public final class Part2Test {
         String[] texts = {"", "A0B", "A0A0"};
         int[] outside = {-1, 7, Integer.MIN_VALUE, Integer.MAX_VALUE};
         for (String text : texts) {
-            ChalkMarket market = Due.with(text);
+            Market market = Due.with(text);
             for (int what : outside) {
                 DUE.is("12: then(" + what + ") of " + text, market.then(what), ChalkMarket.OUTSIDE);
             }
@@ -379,7 +379,7 @@ public final class Part2Test {
     }
 
     private static void promise13Chalk() {
-        ChalkMarket market = new ChalkMarket();
+        Market market = new Market();
         int[] thinks = {6, 6, 6, 0, 3, 3, -1, 1};
         for (int one = 0; one < 8; one++) {
             market.one(one, thinks[one], 5, 10);

@@ -22,7 +22,7 @@ public final class Part3Test {
     }
 
     private static void promise14ByHand() {
-        ChalkMarket market = new ChalkMarket();
+        Market market = new Market();
         for (int day = 0; day < 7; day++) {
             DUE.is("14: sway(" + day + ") of none", market.sway(day), day);
         }
@@ -48,22 +48,24 @@ public final class Part3Test {
         DUE.is("14: sway(2), one leaves", market.sway(2), 1);
     }
 
+    /** From every way to think to every other one; who thinks what is drawn, and is no matter. */
     private static void promise14ByTrying() {
         List<int[]> ways = new ArrayList<>();
         spread(new int[8], 0, 8, ways);
         DUE.is("14: ways to think", ways.size(), 6435);
         Random random = new Random(14);
-        for (int turn = 0; turn < 400; turn++) {
-            ChalkMarket market = new ChalkMarket();
-            int[] now = new int[8];
-            int width = 1 + random.nextInt(8);
-            for (int one = 0; one < 8; one++) {
-                int thinks = random.nextInt(width);
-                market.one(one, thinks == 7 ? -1 : thinks, random.nextInt(10), random.nextInt(100));
-                now[thinks]++;
+        for (int[] now : ways) {
+            Market market = new Market();
+            int one = random.nextInt(8);
+            for (int place = 0; place < 8; place++) {
+                for (int i = 0; i < now[place]; i++) {
+                    market.one(one, place == 7 ? -1 : place, random.nextInt(10), random.nextInt(100));
+                    one = (one + 1) % 8;
+                }
             }
+            int[] fewest = fewest(ways, now);
             for (int day = 0; day < 7; day++) {
-                DUE.is("14: sway(" + day + ") of " + Arrays.toString(now), market.sway(day), fewest(ways, now, day));
+                DUE.is("14: sway(" + day + ") of " + Arrays.toString(now), market.sway(day), fewest[day]);
             }
         }
     }
@@ -81,16 +83,17 @@ public final class Part3Test {
         }
     }
 
-    private static int fewest(List<int[]> ways, int[] now, int day) {
-        int fewest = 99;
+    /** Of each day, how few must think otherwise so that it is the least. */
+    private static int[] fewest(List<int[]> ways, int[] now) {
+        int[] fewest = new int[7];
+        Arrays.fill(fewest, 99);
         for (int[] way : ways) {
-            if (leastDay(way) == day) {
-                int moved = 0;
-                for (int place = 0; place < 8; place++) {
-                    moved += Math.max(0, way[place] - now[place]);
-                }
-                fewest = Math.min(fewest, moved);
+            int moved = 0;
+            for (int place = 0; place < 8; place++) {
+                moved += Math.max(0, way[place] - now[place]);
             }
+            int day = leastDay(way);
+            fewest[day] = Math.min(fewest[day], moved);
         }
         return fewest;
     }
@@ -106,7 +109,7 @@ public final class Part3Test {
     }
 
     private static void promise15ByHand() {
-        ChalkMarket market = new ChalkMarket();
+        Market market = new Market();
         DUE.is("15: one alone", market.needed(5, 1, 5, 0, 0), 1);
         DUE.is("15: one alone carries", market.needed(5, 1, 5, 0, 1), 1);
         DUE.is("15: too few", market.needed(5, 1, 6, 0, 0), 0);
@@ -123,9 +126,9 @@ public final class Part3Test {
     }
 
     private static void promise15ByTrying() {
-        ChalkMarket market = new ChalkMarket();
         Random random = new Random(15);
         for (int turn = 0; turn < 500; turn++) {
+            Market market = new Market();
             int n = 1 + random.nextInt(9);
             int votes = random.nextInt(power10(1 + random.nextInt(n)));
             int[] digits = digits(votes, n);
@@ -156,7 +159,7 @@ public final class Part3Test {
     }
 
     private static void promise15Refused() {
-        ChalkMarket market = new ChalkMarket();
+        Market market = new Market();
         String seen = Due.seenOf(market);
         int[] outsideN = {0, 10, -1, Integer.MIN_VALUE, Integer.MAX_VALUE};
         for (int n : outsideN) {
@@ -189,7 +192,7 @@ public final class Part3Test {
     }
 
     private static void traded(int row, int n, int k, int most, int times) {
-        ChalkMarket market = new ChalkMarket();
+        Market market = new Market();
         String call = "16: trade(" + row + ", " + n + ", " + k;
         DUE.is(call + ", 0)", market.trade(row, n, k, 0), most);
         DUE.is(call + ", 1)", market.trade(row, n, k, 1), times);
@@ -213,9 +216,9 @@ public final class Part3Test {
     }
 
     private static void promise16ByTrying() {
-        ChalkMarket market = new ChalkMarket();
         Random random = new Random(16);
         for (int turn = 0; turn < 300; turn++) {
+            Market market = new Market();
             int n = 1 + random.nextInt(9);
             int row = random.nextInt(power10(n));
             int[] best = new int[10];
@@ -255,7 +258,7 @@ public final class Part3Test {
     }
 
     private static void promise16Refused() {
-        ChalkMarket market = new ChalkMarket();
+        Market market = new Market();
         String seen = Due.seenOf(market);
         int[] outsideN = {0, 10, -1, Integer.MIN_VALUE, Integer.MAX_VALUE};
         for (int n : outsideN) {

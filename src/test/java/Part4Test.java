@@ -15,6 +15,7 @@ public final class Part4Test {
         promise18Forget();
         promise19Slates();
         promise19And20ByTrying();
+        promise19And20OfEveryPair();
         promise20Ask();
         promise21CakesByTrying();
         promise21Refused();
@@ -30,7 +31,7 @@ public final class Part4Test {
     }
 
     private static void promise17Seen() {
-        ChalkMarket market = new ChalkMarket();
+        Market market = new Market();
         int[][] rows = {{0, 0, 0}, {9, 9, 2}, {9, 0, 1}, {0, 9, 0}, {1, 2, 2}, {3, 4, 1}, {5, 6, 0}, {0, 0, 0}};
         for (int i = 0; i < 8; i++) {
             DUE.is("17: told(5)", market.told(5), i);
@@ -53,7 +54,7 @@ public final class Part4Test {
     }
 
     private static void promise18Forget() {
-        ChalkMarket market = new ChalkMarket();
+        Market market = new Market();
         DUE.is("18: forget()", market.forget(), 0);
         market.seen(0, 0, 2);
         market.seen(0, 1, 2);
@@ -69,7 +70,7 @@ public final class Part4Test {
     }
 
     private static void promise19Slates() {
-        ChalkMarket market = new ChalkMarket();
+        Market market = new Market();
         DUE.is("19: slates(-1)", market.slates(-1), 45);
         int i = 0;
         for (int slate = 0; slate <= 88; slate++) {
@@ -102,34 +103,59 @@ public final class Part4Test {
         return one > other ? 0 : one < other ? 1 : 2;
     }
 
+    private static List<Integer> allSlates() {
+        List<Integer> all = new ArrayList<>();
+        for (int slate = 0; slate <= 88; slate++) {
+            if (slate / 10 + slate % 10 <= 8) {
+                all.add(slate);
+            }
+        }
+        return all;
+    }
+
     private static void promise19And20ByTrying() {
         Random random = new Random(19);
         for (int turn = 0; turn < 300; turn++) {
-            ChalkMarket market = new ChalkMarket();
-            List<Integer> fitting = new ArrayList<>();
-            for (int slate = 0; slate <= 88; slate++) {
-                if (slate / 10 + slate % 10 <= 8) {
-                    fitting.add(slate);
-                }
-            }
+            Market market = new Market();
+            List<Integer> fitting = allSlates();
             int truth = fitting.get(random.nextInt(45));
             int sights = random.nextInt(9);
             for (int i = 0; i < sights; i++) {
                 int x = random.nextInt(10);
                 int y = random.nextInt(10);
-                int more = random.nextInt(6) == 0 ? random.nextInt(3) : answer(truth, x, y);
-                market.seen(x, y, more);
-                fitting.removeIf(slate -> answer(slate, x, y) != more);
+                see(market, fitting, x, y, random.nextInt(6) == 0 ? random.nextInt(3) : answer(truth, x, y));
             }
-            DUE.is("19: slates(-1)", market.slates(-1), fitting.size());
-            for (int i = 0; i < 46; i++) {
-                DUE.is("19: slates(" + i + ")", market.slates(i), i < fitting.size() ? fitting.get(i) : NONE);
-            }
-            askByTrying(market, fitting);
+            slatesAndAskByTrying(market, fitting);
         }
     }
 
-    private static void askByTrying(ChalkMarket market, List<Integer> fitting) {
+    /** Every SIGHT, and a second one that bounds a less b from above: no more than two can leave. */
+    private static void promise19And20OfEveryPair() {
+        for (int first = 0; first < 300; first++) {
+            for (int lead = -9; lead <= 9; lead++) {
+                Market market = new Market();
+                List<Integer> fitting = allSlates();
+                see(market, fitting, first / 30, first / 3 % 10, first % 3);
+                see(market, fitting, Math.max(0, lead), Math.max(0, -lead), 1);
+                slatesAndAskByTrying(market, fitting);
+            }
+        }
+    }
+
+    private static void see(Market market, List<Integer> fitting, int x, int y, int more) {
+        market.seen(x, y, more);
+        fitting.removeIf(slate -> answer(slate, x, y) != more);
+    }
+
+    private static void slatesAndAskByTrying(Market market, List<Integer> fitting) {
+        DUE.is("19: slates(-1)", market.slates(-1), fitting.size());
+        for (int i = 0; i < 46; i++) {
+            DUE.is("19: slates(" + i + ")", market.slates(i), i < fitting.size() ? fitting.get(i) : NONE);
+        }
+        askByTrying(market, fitting);
+    }
+
+    private static void askByTrying(Market market, List<Integer> fitting) {
         int best = NONE;
         int fewest = NONE;
         for (int question = 0; question < 100 && !fitting.isEmpty(); question++) {
@@ -148,7 +174,7 @@ public final class Part4Test {
     }
 
     private static void promise20Ask() {
-        ChalkMarket market = new ChalkMarket();
+        Market market = new Market();
         market.seen(2, 0, 2);
         market.seen(0, 0, 1);
         DUE.is("20: what can not be parted", market.ask(0), 0);
@@ -184,8 +210,8 @@ public final class Part4Test {
                 }
             }
         }
-        ChalkMarket market = new ChalkMarket();
         for (int n = 0; n < 100; n++) {
+            Market market = new Market();
             for (int m = 0; m < 100; m++) {
                 DUE.is("21: cakes(" + n + ", " + m + ", 0)", market.cakes(n, m, 0), least[n][m] > 0 ? 1 : 0);
                 DUE.is("21: cakes(" + n + ", " + m + ", 1)", market.cakes(n, m, 1), least[n][m] > 0 ? least[n][m] : NONE);
@@ -194,7 +220,7 @@ public final class Part4Test {
     }
 
     private static void promise21Refused() {
-        ChalkMarket market = new ChalkMarket();
+        Market market = new Market();
         int[] outside = {-1, 100, Integer.MIN_VALUE, Integer.MAX_VALUE};
         for (int number : outside) {
             DUE.is("21: cakes(" + number + ", 1, 0)", market.cakes(number, 1, 0), OUTSIDE);
@@ -210,7 +236,7 @@ public final class Part4Test {
     }
 
     private static void likely(int n, int m, int d, int what, long upper, long lower) {
-        ChalkMarket market = new ChalkMarket();
+        Market market = new Market();
         String call = "22: rung(" + n + ", " + m + ", " + d + ", " + what;
         DUE.is(call + ", 0)", market.rung(n, m, d, what, 0), upper);
         DUE.is(call + ", 1)", market.rung(n, m, d, what, 1), lower);
@@ -273,7 +299,7 @@ public final class Part4Test {
     }
 
     private static void promise22Refused() {
-        ChalkMarket market = new ChalkMarket();
+        Market market = new Market();
         long due = -1000000000000000002L;
         int[] outsideN = {-1, 13, Integer.MIN_VALUE, Integer.MAX_VALUE};
         for (int n : outsideN) {
@@ -295,17 +321,17 @@ public final class Part4Test {
     }
 
     private static void promise23Year() {
-        ChalkMarket market = new ChalkMarket();
+        Market market = new Market();
         int[] seeds = {0, 1, 5, 77, 1234, 9998, 9999};
         for (int seed : seeds) {
             for (int m = 1; m <= 99; m += 7) {
-                String seen = Due.seenOf(market);
                 YearByWords year = new YearByWords(market, seed, m);
+                Market asked = market.again();
                 String call = "23: year(" + seed + ", " + m;
-                DUE.is(call + ", 0)", market.year(seed, m, 0), year.sold);
-                DUE.is(call + ", 1)", market.year(seed, m, 1), year.coin);
-                DUE.is(call + ", 2)", market.year(seed, m, 2), year.markets);
-                DUE.is("23: nothing is DONE in fact", Due.seenOf(market), seen);
+                DUE.is(call + ", 0)", asked.year(seed, m, 0), year.sold);
+                DUE.is(call + ", 1)", asked.year(seed, m, 1), year.coin);
+                DUE.is(call + ", 2)", asked.year(seed, m, 2), year.markets);
+                DUE.is("23: nothing is DONE in fact", Due.seenOf(asked), Due.seenOf(market));
             }
             Due.doAll(market, "...");
             market.one(seed % 8, seed % 7, seed % 10, 20 + seed % 50);
@@ -316,44 +342,33 @@ public final class Part4Test {
 
     /** A YEAR told on the PAD of another object, an ACT at a time. */
     private static final class YearByWords {
-        int sold;
-        int markets;
+        final int sold;
         final int coin;
+        int markets;
 
-        YearByWords(ChalkMarket from, int seed, int m) {
-            ChalkMarket copy = copyOf(from);
+        YearByWords(Market from, int seed, int m) {
+            Market other = from.again();
+            int soldBefore = other.told(3);
             long x = seed;
             for (int i = 0; i < m; i++) {
                 x = (75 * x + 74) % 65537;
-                Due.put(copy, Model.drawnAct((int) x));
-                if (copy.judge(0) == NONE) {
-                    sold += copy.then(3);
-                    markets += copy.then(5);
-                    copy.done();
-                }
+                perform(other, Model.drawnAct((int) x));
             }
-            coin = copy.told(30);
+            sold = other.told(3) - soldBefore;
+            coin = other.told(30);
         }
 
-        private static ChalkMarket copyOf(ChalkMarket from) {
-            ChalkMarket copy = new ChalkMarket();
-            for (int i = from.told(4); i > 0; i -= 30) {
-                Due.put(copy, Due.mornings(Math.min(i, 30)));
-                copy.done();
+        private void perform(Market other, String act) {
+            Due.write(other, act);
+            markets += act.equals(".") ? Math.max(0, other.then(5)) : 0;
+            if (other.done() == ChalkMarket.NO) {
+                other.wipe();
             }
-            copy.day(from.told(1));
-            for (int one = 0; one < 8; one++) {
-                copy.one(one, Math.max(-1, from.told(10 + one)), from.told(20 + one), from.told(30 + one));
-            }
-            for (int cart = 0; cart < 4; cart++) {
-                copy.cart(cart, from.told(40 + cart));
-            }
-            return copy;
         }
     }
 
     private static void promise23Refused() {
-        ChalkMarket market = new ChalkMarket();
+        Market market = new Market();
         int[] outsideSeed = {-1, 10000, Integer.MIN_VALUE, Integer.MAX_VALUE};
         for (int seed : outsideSeed) {
             DUE.is("23: seed " + seed, market.year(seed, 1, 0), OUTSIDE);
@@ -370,7 +385,7 @@ public final class Part4Test {
 
     private static void promise24And25Images() {
         for (int n = 0; n < 2; n++) {
-            ChalkMarket market = new ChalkMarket();
+            Market market = new Market();
             market.one(0, 1, 2, 3);
             market.one(7, 6, 9, 99);
             market.cart(0, 0);
@@ -378,7 +393,7 @@ public final class Part4Test {
             market.day(6);
             Due.doAll(market, ".");
             market.seen(1, 2, 0);
-            market.seen(2, 1, 1);
+            market.seen(2, 6, 1);
             String kept = Due.seenOf(market);
             DUE.is("24: image(" + n + ")", market.image(n), 1);
             DUE.is("24: all behind it", Due.seenOf(market), kept);
@@ -413,7 +428,7 @@ public final class Part4Test {
     }
 
     private static void promise24And25Refused() {
-        ChalkMarket market = Due.with("A0");
+        Market market = Due.with("A0");
         String seen = Due.seenOf(market);
         for (int n : NOT_0_OR_1) {
             DUE.is("24: image(" + n + ")", market.image(n), OUTSIDE);
@@ -425,7 +440,7 @@ public final class Part4Test {
     }
 
     private static void promise26Told() {
-        ChalkMarket market = new ChalkMarket();
+        Market market = new Market();
         market.cart(1, 0);
         market.cart(2, 0);
         Due.doAll(market, "A0.");

@@ -17,6 +17,7 @@ import java.util.regex.Pattern;
 public final class RulesTest {
     private static final Due DUE = new Due("RulesTest");
     private static final Path SOURCE = Path.of("src/main/java/ChalkMarket.java");
+    private static final Path DOC = Path.of("../shared/DOC.md");
     private static final String[] METHODS = {"int one(int,int,int,int)", "int cart(int,int)", "int day(int)", "int say(int)",
         "int wipe()", "int fault()", "int judge(int)", "int done()", "int behind(int,int)", "int comes(int)", "int then(int)",
         "int chalk(int)", "int sway(int)", "int needed(int,int,int,int,int)", "int trade(int,int,int,int)",
@@ -27,6 +28,7 @@ public final class RulesTest {
 
     public static void main(String[] args) throws Exception {
         face();
+        faceAsTheDocumentHasIt();
         insideClasses();
         source();
         noCallMakesObjects();
@@ -64,6 +66,38 @@ public final class RulesTest {
         DUE.is("the constants", constants.toString(), new TreeSet<>(Arrays.asList(CONSTANTS)).toString());
     }
 
+    /** Each line of the document's code block stands in the class, in its order, names and all. */
+    private static void faceAsTheDocumentHasIt() throws IOException {
+        if (!Files.isReadable(DOC)) {
+            System.out.println("RulesTest: " + DOC + " is not here: the face is not held against it");
+            return;
+        }
+        String doc = Files.readString(DOC);
+        String source = Files.readString(SOURCE);
+        int block = doc.indexOf("```java\n") + 8;
+        String[] lines = doc.substring(block, doc.indexOf("```", block)).split("\n");
+        int at = 0;
+        int found = 0;
+        for (String line : lines) {
+            if (line.contains("public ")) {
+                String due = line.endsWith(");") ? line.replace(";", " {") : line;
+                int next = source.indexOf("\n" + due + "\n", at);
+                DUE.holds("the class has not, or not in its place:" + line, next >= 0);
+                at = Math.max(at, next);
+                found++;
+            }
+        }
+        DUE.is("lines of the document's face", found, METHODS.length + 4);
+        for (String ahead : doc.split("\n")) {
+            if (ahead.startsWith("Ahead of the calls `")) {
+                String first = ahead.replaceAll("^[^`]*`(\\w+)`.*", "$1");
+                String says = ahead.replaceAll(".*says: (.*)\\.$", "$1");
+                DUE.holds(says + " stands ahead of " + first,
+                    source.matches("(?s).*// " + Pattern.quote(says) + "\n\n    public \\w+ " + first + "\\(.*"));
+            }
+        }
+    }
+
     private static void insideClasses() {
         List<Class<?>> all = new ArrayList<>(Arrays.asList(ChalkMarket.class.getDeclaredClasses()));
         for (Class<?> inside : all) {
@@ -81,9 +115,19 @@ public final class RulesTest {
             }
             DUE.holds("11: at most twenty fields in " + one, fields <= 20);
             for (Method method : one.getDeclaredMethods()) {
+                DUE.holds("1: " + method + " bears a public one's name", one == ChalkMarket.class || !isOfTheFace(method));
                 DUE.holds("11: at most seven parameters in " + method, method.getParameterCount() <= 7);
             }
         }
+    }
+
+    private static boolean isOfTheFace(Method method) {
+        for (Method face : ChalkMarket.class.getMethods()) {
+            if (face.getDeclaringClass() == ChalkMarket.class && face.getName().equals(method.getName())) {
+                return true;
+            }
+        }
+        return false;
     }
 
     private static void source() throws IOException {
@@ -91,7 +135,8 @@ public final class RulesTest {
         String code = text.replaceAll("(?s)/\\*.*?\\*/", "").replaceAll("//[^\n]*", "");
         String[] ruledOut = {"\\bimport\\b", "\\bpackage\\b", "->", "::", "\\bthrow\\b", "\\btry\\b", "\\bcatch\\b",
             "\\bfinally\\b", "\\bsynchronized\\b", "\\bassert\\b", "\\bdouble\\b", "\\bfloat\\b", "Exact\\(", "\\bSystem\\b",
-            "\\bRandom\\b", "\\bThread\\b", "\\bwhile\\b", "static \\{", "@", "\\bvar\\b", "\\bprotected\\b"};
+            "\\bRandom\\b", "\\bThread\\b", "\\bwhile\\b", "static \\{", "@", "\\bvar\\b", "\\bprotected\\b",
+            "\\bnull\\b", "\\bnew [A-Z]\\w*\\["};
         for (String pattern : ruledOut) {
             DUE.holds("the source has " + pattern, !Pattern.compile(pattern).matcher(code).find());
         }
@@ -114,20 +159,29 @@ public final class RulesTest {
 
     /** The room that all calls live in is small: only the constructor may make objects. */
     private static void noCallMakesObjects() {
-        ChalkMarket market = new ChalkMarket();
-        useAll(market);
-        useAll(market);
+        ChalkMarket[] markets = new ChalkMarket[15];
+        for (int i = 0; i < markets.length; i++) {
+            markets[i] = new ChalkMarket();
+        }
+        useEach(markets, 0, 10);
         com.sun.management.ThreadMXBean threads = (com.sun.management.ThreadMXBean) ManagementFactory.getThreadMXBean();
         threads.getCurrentThreadAllocatedBytes();
         long before = threads.getCurrentThreadAllocatedBytes();
-        useAll(market);
+        useEach(markets, 10, 15);
         long after = threads.getCurrentThreadAllocatedBytes();
         // The reading itself may take a few bytes; any one object of the class would take 16 a call.
         DUE.holds("12: calls made objects of " + (after - before) + " bytes", after - before < 100 * 16);
     }
 
-    private static void useAll(ChalkMarket market) {
-        for (int turn = 0; turn < 100; turn++) {
+    /** An object is asked 500 times: five of them see all turns. */
+    private static void useEach(ChalkMarket[] markets, int from, int to) {
+        for (int i = from; i < to; i++) {
+            useAll(markets[i], i % 5 * 20, i % 5 * 20 + 20);
+        }
+    }
+
+    private static void useAll(ChalkMarket market, int from, int to) {
+        for (int turn = from; turn < to; turn++) {
             market.one(turn % 8, turn % 7, turn % 10, turn);
             market.cart(turn % 4, turn % 10);
             market.day(turn % 7);
